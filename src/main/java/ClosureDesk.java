@@ -119,10 +119,9 @@ public final class ClosureDesk {
     }
 
     public int bestWithout(int u) {
-        if (!isPresent(u)) {
-            return best();
-        }
-        return greatestWorth(0, 1 << u);
+        // A number that none has bars nothing, which makes this the same as best().
+        int barred = isPresent(u) ? 1 << u : 0;
+        return greatestWorth(0, barred);
     }
 
     public int threshold(int u) {

@@ -10,6 +10,7 @@ import java.util.TreeSet;
  */
 public final class ModelTest {
     private static final int RUNS = 30;
+    // The document leaves free what an object answers after its 512th call, so each step is one call.
     private static final int CALLS = 512;
     private static final int KINDS = 18;
     private static int wrong = 0;
@@ -66,7 +67,7 @@ public final class ModelTest {
             int u = someNumber();
             int v = someNumber();
             int worth = someWorth(spread);
-            int set = someSet();
+            int set = below(2) == 0 ? someSet() : model.closure(someSet());
             boolean on = below(5) < 3;
             calls.add("call " + kind + " with u=" + u + " v=" + v + " worth=" + worth + " set=" + set + " on=" + on);
             int got = ask(desk, kind, u, v, worth, set, on);
@@ -89,8 +90,8 @@ public final class ModelTest {
             case 3:
             case 4: return desk.need(u, v, on) ? 1 : 0;
             case 5: return desk.undertakings();
-            case 6: return desk.closed(set) ? 1 : 0;
-            case 7: return desk.closed(desk.closure(set)) ? 1 : 0;
+            case 6:
+            case 7: return desk.closed(set) ? 1 : 0;
             case 8: return desk.closure(set);
             case 9: return desk.best();
             case 10: return desk.leastBest();
@@ -125,8 +126,8 @@ public final class ModelTest {
                 case 3:
                 case 4: return need(u, v, on);
                 case 5: return bits(worths.keySet());
-                case 6: return isClosed(set) ? 1 : 0;
-                case 7: return 1;
+                case 6:
+                case 7: return isClosed(set) ? 1 : 0;
                 case 8: return closure(set);
                 case 9: return best();
                 case 10: return bestSets().stream().reduce(-1, (a, b) -> a & b);

@@ -170,18 +170,24 @@ public final class PromisesTest {
         due("6: undertakings()", desk.undertakings(), 11);
     }
 
-    private static void closed() {
+    private static ClosureDesk chainOfThree() {
         ClosureDesk desk = deskOf(1, 1, 1);
         desk.need(0, 1, true);
         desk.need(1, 2, true);
+        return desk;
+    }
+
+    private static void closed() {
         int[] closedSets = {0, 4, 6, 7};
         for (int set = 0; set < 1024; set++) {
             boolean listed = false;
             for (int closedSet : closedSets) {
                 listed |= set == closedSet;
             }
-            due("7: closed(" + set + ")", desk.closed(set), listed);
+            // A new object each time: one is good for 512 calls only.
+            due("7: closed(" + set + ")", chainOfThree().closed(set), listed);
         }
+        ClosureDesk desk = chainOfThree();
         due("7: closed(-1)", desk.closed(-1), false);
         due("7: closed(MIN)", desk.closed(Integer.MIN_VALUE), false);
         due("7: closed(MIN | 4)", desk.closed(Integer.MIN_VALUE | 4), false);
